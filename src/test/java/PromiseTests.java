@@ -26,8 +26,10 @@ public final class PromiseTests {
         readsFaults();
         readsStops();
         back();
+        backOverEach();
         told();
         digest();
+        fullHouse();
         refusalsChangeNothing();
         orderOfRefusals();
         C.end("PromiseTests");
@@ -136,6 +138,11 @@ public final class PromiseTests {
         C.due("3: a new one has no habits", x.phrase(1, 2), 3);
         habits(x, 1, 0, 0, 0, 0);
         C.due("3: the last", x.drops(3), 3);
+        read(x, "f0b;lb;s0;s1;s2;x3;f0b;");
+        for (int m = 0; m < 3; m++) {
+            habits(x, m, m == 0 ? 1 : 0, m == 2 ? 3 : 0, 0, 0);
+        }
+        x.drops(3);
         C.due("3: the first", x.drops(0), 2);
         C.due("3: of them", x.of(0, 3), 35);
         C.due("3: again", x.drops(0), 1);
@@ -239,6 +246,13 @@ public final class PromiseTests {
         C.due("10: marks are none of the line's", y.cuts(), 3);
         y.wipes();
         C.due("10: an empty line", y.cuts(), 0);
+        C.due("10: one letter", with("f0h;f1h;f2g;lh;").cuts(), 2);
+        C.due("10: six letters", with("f0abcdef;f1abcde;f2f;f3abcdeh;labcdef;").cuts(), 2);
+        SungLines z = with("f0abcdef;f1bcdefg;labcdefabcdefabcdefabcdefabcdefabcdefabcd;");
+        C.due("10: 40 letters", z.cuts(), 0);
+        z.phrase(2, 1234);
+        C.due("10: 40 letters", z.cuts(), 1);
+        C.due("11: of 40 letters", z.best(0, NONE), 7);
     }
 
     private static void best() {
@@ -372,6 +386,15 @@ public final class PromiseTests {
         C.due("16: slot 1 behind slot 1 alone", x.made(), 0);
         x.ends(2);
         C.due("16: e e", x.made(), 1);
+        x.follows(1, 15);
+        x.ends(15);
+        x.begins(15);
+        x.marks(3, 1);
+        C.due("16: a break at the last place below T", x.made(), 3);
+        x.marks(3, 2);
+        C.due("16: a bridge at the last place below T", x.made(), 2);
+        x.metre(1);
+        C.due("16: T is 1", x.made(), 1);
         SungLines y = with("f0efgh;t7;");
         C.due("16: a phrase too long", y.made(), 0);
         y.metre(8);
@@ -433,8 +456,25 @@ public final class PromiseTests {
         C.due("ON: picks of weights", w.picks(1, 0, NONE), MUCH);
         C.due("ON: rows are not", w.made(), 1);
         C.due("ON: picks of another maker", w.picks(0, 0, NONE), 12);
+        mostOfAll();
         w.metre(11);
         C.due("ON: 41 to the 11th is not", w.weight(1, NONE), 550329031716248441L);
+    }
+
+    /** a weighs 8, b 7, c and d 1: with a a .. b c c .. in 21 morae it is 8 to the 21st, less 1: just not above. */
+    private static void mostOfAll() {
+        SungLines x = with("f0a;f1b;f2c;laaaaaaa;s0;lbbbbbb;s0;b3;e6;w0 3;w1 4;w2 4;w3 0;t21;");
+        C.due("ON: the most", x.weight(0, NONE), Long.MAX_VALUE);
+        C.due("ON: of them", x.weight(0, 0), Long.MAX_VALUE - 7);
+        C.due("ON: of them", x.weight(0, 1), 7);
+        C.due("ON: picks", x.picks(0, 0, NONE), 21);
+        x.metre(22);
+        C.due("ON: above the most", x.weight(0, NONE), MUCH);
+        read(x, "f3d;b8;w3 3;");
+        C.due("ON: the most, behind one that weighs 1", x.weight(0, NONE), Long.MAX_VALUE);
+        C.due("ON: it begins with that", x.weight(0, 3), Long.MAX_VALUE);
+        x.begins(9);
+        C.due("ON: above the most", x.weight(0, NONE), MUCH);
     }
 
     // ---- 17, 18, 19
@@ -710,6 +750,45 @@ public final class PromiseTests {
         C.due("23: questions and what is refused leave none", y.told(14), 1);
     }
 
+    private static void tell(SungLines x, int kind) {
+        switch (kind) {
+            case 0: x.phrase(2, 15); break;
+            case 1: x.drops(0); break;
+            case 2: x.begins(7); break;
+            case 3: x.ends(7); break;
+            case 4: x.follows(3, 1); break;
+            case 5: x.letter(4); break;
+            case 6: x.wipes(); break;
+            case 7: x.sings(1); break;
+            case 8: x.metre(5); break;
+            case 9: x.marks(39, 1); break;
+            default: x.reads();
+        }
+    }
+
+    /** Each call told S leaves just what was ahead of it, whatever states were left before. */
+    private static void backOverEach() {
+        for (int kind = 0; kind <= 10; kind++) {
+            SungLines x = with("f0a;f1eb;laeba;s0;k3 2;");
+            read(x, "f0b;f1e;b14;l;");
+            read(x, "x0;t30;k3 1;lebe;w0 1;w1 14;b15;");
+            long before = x.digest();
+            tell(x, kind);
+            C.due("23: a state by kind " + kind, x.told(14), 4);
+            C.due("23: back over kind " + kind, x.back(), 3);
+            C.due("23: all is as it was, kind " + kind, x.digest(), before);
+        }
+        SungLines y = with("f0ab;laba;");
+        y.drops(0);
+        y.phrase(0, 1);
+        y.back();
+        y.back();
+        y.letter(2);
+        C.due("23: a phrase is whole again", y.cuts(), 1);
+        C.due("23: its letters", y.of(0, 1), 2);
+        C.due("23: its morae", y.of(0, 2), 2);
+    }
+
     // ---- 24, 25
 
     private static void told() {
@@ -771,8 +850,51 @@ public final class PromiseTests {
         C.due("25: with all parts", y.digest(), digestOf(due));
         SungLines z = with("f0a;f1a;f2a;f3a;t40;laaaaaaaaaaaaaaaaaaaaaaaaaaaaaaaaaaaaaaaa;");
         long first = z.digest();
+        long[] much = new long[15 + 28 + 40 + 39 + 2 + 15];
+        long[] told2 = {0, 0, 0, 0, z.told(4), 4, 40, 40, 15, 15, 15, 15, 15, 15, 1};
+        System.arraycopy(told2, 0, much, 0, 15);
+        for (int i = 0; i < 4; i++) {
+            long[] of = {i, 1, 1, 1, 0, 0, 0};
+            System.arraycopy(of, 0, much, 15 + 7 * i, 7);
+        }
+        java.util.Arrays.fill(much, 43, 83, 1);
+        java.util.Arrays.fill(much, 122, 139, NONE);
+        for (int k : new int[] {122, 123, 124, 129, 134}) {
+            much[k] = MUCH;
+        }
+        C.due("25: TOO MUCH", first, digestOf(much));
         C.due("25: TOO MUCH is not counted", z.told(3), 0);
         C.due("25: TOO MUCH is not counted", z.digest(), first);
+    }
+
+    // ---- all rows full
+
+    private static void fullHouse() {
+        SungLines x = with("f0a;f0b;f0c;f0d;f1a;f1b;f1c;f1d;f2a;f2b;f2c;f2d;labcdabcdabcdabcdabcdabcdabcdabcdabcdabcd;t40;");
+        C.due("full: 3 to the 40th", x.cuts(), MUCH);
+        C.due("full: best", x.best(0, NONE), 40);
+        C.due("full: best", x.best(0, 39), 3);
+        C.due("full: sings", x.sings(0), 40);
+        C.due("full: fixes", x.fixes(0, 0), NONE);
+        C.due("full: fixes", x.fixes(0, 2), NONE);
+        C.due("full: made", x.made(), MUCH);
+        x.metre(17);
+        C.due("full: 12 to the 17th", x.made(), 2218611106740436992L);
+        C.due("full: the last row", x.row(2218611106740436991L, 16), 11);
+        C.due("full: no more", x.row(2218611106740436992L, 16), NO);
+        x.metre(2);
+        C.due("full: weights of 11 four times, of 1 eight times", x.weight(0, NONE), 52 * 52);
+        C.due("full: the last one", x.weight(0, 11), 52);
+        x.metre(40);
+        read(x, "w0 8;w1 8;w2 8;");
+        C.due("full: one phrase alone is too short", x.made(), 0);
+        read(x, "w0 1;w1 2;w2 4;x1;x1;x1;x1;x1;x1;x1;x1;");
+        C.due("full: a phrase stays", x.told(5), 4);
+        read(x, "x1;x1;x1;laaaaaaaaaaaaaaaaaaaaaaaaaaaaaaaaaaaaaaaa;");
+        C.due("full: a alone", x.made(), 1);
+        C.due("full: 40 of them", x.row(0, NONE), 40);
+        C.due("full: the 40th", x.row(0, 39), 0);
+        C.due("full: cuts", x.cuts(), 1);
     }
 
     // ---- what is refused
