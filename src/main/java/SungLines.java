@@ -275,10 +275,12 @@ public final class SungLines {
     }
 
     /** MORAE of a code's LETTERS: 2 for e to h, which are the figures from 5 on. */
-    private static int moraeIn(int code) {
+    private static int moraeIn(int code, int letters) {
         int morae = 0;
-        for (int rest = code; rest > 0; rest /= 10) {
+        int rest = code;
+        for (int k = 0; k < letters; k++) {
             morae += rest % 10 >= 5 ? 2 : 1;
+            rest /= 10;
         }
         return morae;
     }
@@ -425,7 +427,7 @@ public final class SungLines {
             slot[i] = s;
             code[i] = c;
             size[i] = letters;
-            morae[i] = moraeIn(c);
+            morae[i] = moraeIn(c, letters);
             for (int m = 0; m < MAKERS; m++) {
                 habit[m * MOST_PHRASES + i] = 0;
             }
@@ -995,7 +997,7 @@ public final class SungLines {
                 letters[letterCount++] = byteHere() - 'a' + 1;
                 at++;
             }
-            return letterCount >= least && !within(byteHere(), 'a', 'h');
+            return letterCount >= least;
         }
 
         int lettersAsCode() {

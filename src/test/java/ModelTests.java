@@ -2,7 +2,7 @@ import java.util.Random;
 
 /** Random runs of calls (from fixed seeds) on the class and on the slow model: every answer must be alike. */
 public final class ModelTests {
-    private static final int RUNS = 500;
+    private static final int RUNS = 700;
     private static final Check CHECK = new Check();
 
     private final Random dice;
@@ -30,7 +30,8 @@ public final class ModelTests {
     }
 
     private void play() {
-        int most = 60 + dice.nextInt(453);
+        // the last step may take a whole text more, and no object is asked more than 512 times
+        int most = 60 + dice.nextInt(280);
         while (calls < most && CHECK.clean()) {
             step();
             if (dice.nextInt(25) == 0) {
@@ -120,11 +121,13 @@ public final class ModelTests {
             addLetter(dice.nextBoolean() ? about(1, 8) : kind());
             return;
         }
+        calls++;
         if (x.told(6) > 30 && dice.nextInt(3) == 0) {
             wipe();
         }
         for (int k = 1 + dice.nextInt(3); k > 0; k--) {
             int code = x.of(dice.nextInt(phrases), 3);
+            calls++;
             for (char c : Integer.toString(code).toCharArray()) {
                 addLetter(c - '0');
             }

@@ -435,9 +435,6 @@ public final class PromiseTests {
         C.due("ON: of a slot without phrases", y.made(), MUCH);
         y.follows(1, 4);
         C.due("ON: of a slot without phrases", y.made(), 0);
-        // no set lets slot 1 in: what is above the most behind it does no harm
-        SungLines z = with("f0a;f0b;f0c;f0d;f1a;f1b;w0 1;w1 1;w2 1;w3 1;b1;t31;");
-        C.due("ON: a slot that nothing lets in", z.made(), 4611686018427387904L);
         // CUTS likewise
         SungLines v = with("f0a;f1a;f2a;f3a;laaaaaaaaaaaaaaaaaaaaaaaaaaaaaaa;");
         C.due("ON: cuts", v.cuts(), 4611686018427387904L);
