@@ -225,6 +225,15 @@ final class EdgesOfLinesMade extends EdgeCase {
         due(x.row(1, 39), 1);
     }
 
+    @Says({"The n-th MADE ROW (0 on):", "the i-th;"})
+    void p17_phrase11OfTwelve() {
+        twelveOfOneMora();
+        x.metre(2);
+        rowIs(11, 0, 11);
+        rowIs(132, 11, 0);
+        rowIs(143, 11, 11);
+    }
+
     @Says("how many PHRASES (i NONE),")
     void p17_aShorterMetreBehindALongerOne() {
         phrases("0a");

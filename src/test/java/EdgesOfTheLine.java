@@ -206,6 +206,17 @@ final class EdgesOfTheLine extends EdgeCase {
         due(x.best(0, 39), 1);
     }
 
+    @Says("the i-th PHRASE;")
+    void p11_phrase11OfTwelve() {
+        twelveOfOneMora();
+        line("ddd");
+        bestIs(0, 0, 3, 3, 3);
+        x.begins(4);
+        bestIs(0, 0, 11, 3, 3);
+        x.ends(4);
+        bestIs(0, 0, 11, 3, 11);
+    }
+
     @Says("the sum of HABITS (-2),")
     void p11_aShorterLineBehindALongerOne() {
         for (String phrase : new String[] {"0a", "3a"}) {

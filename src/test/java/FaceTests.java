@@ -37,12 +37,19 @@ public final class FaceTests {
     private static void methods(Class<?> face) {
         Set<String> open = new TreeSet<>();
         for (Method m : face.getDeclaredMethods()) {
-            if (!Modifier.isPrivate(m.getModifiers()) && !m.isSynthetic()) {
+            C.that(m + " takes seven at most", m.getParameterCount() <= 7);
+            if (Modifier.isPrivate(m.getModifiers())) {
+                C.that(m + " bears no public method's name", !publicNames().contains(m.getName()));
+            } else if (!m.isSynthetic()) {
                 C.that(m + " is public and no static one", Modifier.isPublic(m.getModifiers()) && !Modifier.isStatic(m.getModifiers()));
                 open.add(told(m));
             }
         }
         C.that("methods are " + open, open.equals(new TreeSet<>(Arrays.asList(METHODS))));
+    }
+
+    private static Set<String> publicNames() {
+        return Arrays.stream(METHODS).map(m -> m.replaceAll(".* |\\(.*", "")).collect(Collectors.toSet());
     }
 
     private static void fields(Class<?> face) {
@@ -68,13 +75,12 @@ public final class FaceTests {
     private static void nested(Class<?> face) {
         Class<?>[] inside = face.getDeclaredClasses();
         C.that("some twelve classes at most", inside.length < 12);
-        Set<String> names = Arrays.stream(METHODS).map(m -> m.replaceAll(".* |\\(.*", "")).collect(Collectors.toSet());
         for (Class<?> c : inside) {
             C.that(c + " is static", Modifier.isStatic(c.getModifiers()) && !Modifier.isPublic(c.getModifiers()));
             C.that(c + " has some twenty fields at most", c.getDeclaredFields().length <= 20);
             for (Method m : c.getDeclaredMethods()) {
                 C.that(m + " takes seven at most", m.getParameterCount() <= 7);
-                C.that(m + " bears no public method's name", !names.contains(m.getName()));
+                C.that(m + " bears no public method's name", !publicNames().contains(m.getName()));
             }
         }
     }
